@@ -831,6 +831,27 @@ public final class PromiseTests {
         due("canFinish() after the other pick", x.canFinish(), 1);
     }
 
+    private static void canFinishSeesTheFarthestEnd() {
+        ProtocolRoles x = new ProtocolRoles();
+        x.end();
+        for (int i = 0; i < 19; i++) {
+            x.message(i % 3, (i + 1) % 3, i % 4);
+        }
+        begin(x, 20);
+        due("canFinish() before 19 messages", x.canFinish(), 1);
+
+        x.again(0);
+        for (int i = 0; i < 16; i++) {
+            x.message(0, 1, 0);
+        }
+        x.end();
+        x.choose(0);
+        x.loop(0);
+        begin(x, 20);
+        x.send(0, 0, 0);
+        due("canFinish() with the end behind the next round", x.canFinish(), 1);
+    }
+
     private static void moreCallsThanPromisedStillAnswer() {
         ProtocolRoles x = chooseWhile(0);
         for (int i = 0; i < 3000; i++) {
@@ -903,6 +924,7 @@ public final class PromiseTests {
         sentCounts();
         promise = 17;
         canFinishAsksForAnEnd();
+        canFinishSeesTheFarthestEnd();
         moreCallsThanPromisedStillAnswer();
     }
 
