@@ -137,6 +137,7 @@ public final class BuildingBoundaries {
             Sentences.refused("20x end, discard", "message 0 1 0", TOO_FEW);
             Calls.after("end").due("message 0 1 0", 1);
         });
+        // FULL and TOO_FEW can't meet here, nor in loop: where the stack is empty no term has been made.
         Sentences.sentence("Tested in this order", () -> {
             String[] bad = {"message 3 1 0", "message 0 -1 0", "message 1 1 0", "message 0 1 4", "message 0 1 -1"};
             for (String call : bad) {

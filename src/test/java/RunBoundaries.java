@@ -20,6 +20,8 @@ public final class RunBoundaries {
     private static final String HELD_PICKING = "2x end, choose 0, 4x message 0 1 3, protocol, 4x send 0 0 9";
     private static final String HELD_TELLING = "2x end, choose 0, 4x message 0 2 3, protocol, 5x send 0 1 9";
     private static final String PICK_FOREVER = "again 0, end, choose 0, loop 0, protocol";
+    private static final String END_OR_FOREVER = "end, again 0, message 0 1 2, loop 0, choose 2, protocol";
+    private static final String FOREVER_OR_END = "again 1, message 0 1 2, loop 1, end, choose 2, protocol";
 
     private static void restart() {
         Sentences.under("Promise 9: restart");
@@ -41,8 +43,7 @@ public final class RunBoundaries {
             Sentences.alike(PICKING, HALF_TOLD + ", restart");
             Sentences.alike(PICKING, HALF_TOLD + ", receive 0, send 1 0 4, receive 2, restart");
             Calls.after(HALF_TOLD + ", restart").due("send 1 0 0, send 1 1 0", 0);
-            String endless = "end, again 0, message 0 1 0, loop 0, choose 2, protocol";
-            Calls.after(endless + ", 2x send 2 1 0").due("canFinish, restart, canFinish", 0, 0, 1);
+            Calls.after(END_OR_FOREVER + ", 2x send 2 1 0").due("canFinish, restart, canFinish", 0, 0, 1);
         });
         Sentences.sentence("nothing is on its way.", () -> {
             Calls.after(HELD_RUN + ", restart").due("onWay 0 1, receive 1, state 0", 0, NONE, MAY_SEND)
@@ -53,7 +54,8 @@ public final class RunBoundaries {
             Calls.after(HELD_TELLING + ", restart").due("onWay 0 1, onWay 0 2", 0);
         });
         Sentences.sentence("The run begins anew", () -> {
-            Sentences.alike(FOREVER + ", 2x end, message 0 1 2", FOREVER + ", 2x end, message 0 1 2, send 0 0 5, restart");
+            Sentences.alike(FOREVER + ", 2x end, message 0 1 2",
+                FOREVER + ", 2x end, message 0 1 2, send 0 0 5, restart");
             Calls.after("20x end, restart").due("end, discard", Sentences.FULL, 20);
             Calls.after(ONE_MESSAGE + ", again 0, restart").due("send 0 0 0, discard", 3, 1);
         });
@@ -111,6 +113,8 @@ public final class RunBoundaries {
                 Sentences.refused(PICKING, "send 1 " + pick + " 5", BAD_ARG);
                 Sentences.refused(PICK_FOREVER + ", 2x send 0 0 7", "send 0 " + pick + " 5", BAD_ARG);
                 Sentences.refused(HELD_PICKING + ", receive 1", "send 0 " + pick + " 5", BAD_ARG);
+                Sentences.refused(END_OR_FOREVER, "send 2 " + pick + " 5", BAD_ARG);
+                Sentences.refused(FOREVER_OR_END, "send 2 " + pick + " 5", BAD_ARG);
             }
             Calls.after(PICKING).due("send 1 0 5", 0);
             Calls.after(PICKING).due("send 1 1 5", 1);
@@ -140,9 +144,11 @@ public final class RunBoundaries {
     private static void receive() {
         Sentences.under("Promise 11: receive");
         Sentences.sentence("The role does its next action, if it is a receiving that can be done", () -> {
-            Calls.after(ONE_MESSAGE + ", send 0 0 5").due("receive 1, onWay 0 1, got 1, state 1, sent", 3, 0, 5, OVER, 1);
+            Calls.after(ONE_MESSAGE + ", send 0 0 5")
+                .due("receive 1, onWay 0 1, got 1, state 1, sent", 3, 0, 5, OVER, 1);
             Calls.after(HELD_RUN).due("receive 1, onWay 0 1, state 0, receive 1, onWay 0 1", 3, 3, MAY_SEND, 3, 2);
-            Calls.after(HALF_TOLD + ", send 1 0 8").due("receive 2, got 2, state 0, receive 0, got 0", 1, 8, MAY_RECEIVE, 1, 9);
+            Calls.after(HALF_TOLD + ", send 1 0 8")
+                .due("receive 2, got 2, state 0, receive 0, got 0", 1, 8, MAY_RECEIVE, 1, 9);
             Calls.after(HELD_TELLING).due("4x receive 2", 3).due("receive 2, state 2", NONE, WAITS)
                 .due("send 0 0 4, receive 2, got 2", 1, 1, 4);
         });
@@ -201,6 +207,9 @@ public final class RunBoundaries {
             Calls.after("end, message 2 1 2, message 0 1 1, protocol, send 2 0 22, send 0 0 11")
                 .due("got 1, receive 1, got 1, receive 1, got 1, receive 1, got 1", 0, 1, 11, 2, 22, NONE, 22);
             Calls.after(HALF_TOLD + ", send 1 0 8, receive 0, receive 2").due("got 0, got 1, got 2", 9, 0, 8);
+            Calls.after(FOREVER + ", send 0 0 4, send 0 0 3, send 0 0 2, send 0 0 1")
+                .due("receive 1, got 1, receive 1, got 1", 3, 4, 3, 3).due("send 0 0 7, got 1", 3)
+                .due("receive 1, got 1, receive 1, got 1, receive 1, got 1", 3, 2, 3, 1, 3, 7);
         });
         Sentences.sentence("received by the role", () -> {
             Calls.after(ONE_MESSAGE + ", send 0 0 5").due("got 0, got 1, got 2", 0)
@@ -259,7 +268,8 @@ public final class RunBoundaries {
             Calls.after(PICKING).states(WAITS, MAY_SEND, WAITS);
             Calls.after(HALF_TOLD).due("state 2", WAITS);
             Calls.after("end, message 2 1 2, message 0 1 1, protocol, send 2 0 0").due("state 1", WAITS);
-            Calls.after("2x end, choose 2, message 0 1 3, protocol, send 0 0 0, receive 1").states(WAITS, WAITS, MAY_SEND);
+            Calls.after("2x end, choose 2, message 0 1 3, protocol, send 0 0 0, receive 1")
+                .states(WAITS, WAITS, MAY_SEND);
         });
     }
 
@@ -372,7 +382,8 @@ public final class RunBoundaries {
                 .due("send 1 0 0, sent, receive 2, send 2 0 0, sent", 2, 2, 2, 3, 3);
         });
         Sentences.sentence("(pickings too)", () -> {
-            Calls.after(PICKING).due("sent, send 1 0 0, sent, send 1 0 0, sent, send 1 0 0, sent", 0, 0, 1, 0, 2, NONE, 2);
+            Calls.after(PICKING)
+                .due("sent, send 1 0 0, sent, send 1 0 0, sent, send 1 0 0, sent", 0, 0, 1, 0, 2, NONE, 2);
             Calls.after(PICKING).due("send 1 2 0, sent, send 1 -1 0, sent", BAD_ARG, 0, BAD_ARG, 0);
             Calls.after(HELD_PICKING).due("send 0 1 0, sent", NONE, 4);
             Calls.after(HELD_TELLING).due("sent, send 0 1 0, sent", 5, NONE, 5);
@@ -394,7 +405,8 @@ public final class RunBoundaries {
             Calls.after(PICKING).due("canFinish, send 1 0 0, canFinish", 1, 0, 1);
             Calls.after(PICK_FOREVER).due("canFinish", 1).due("8x send 0 0 0", 0).due("canFinish", 1);
             Calls.after("end, again 0, choose 0, loop 0, protocol").due("canFinish, send 0 1 0, canFinish", 1, 1, 1);
-            String deep = "again 0, again 0, again 0, again 0, end, choose 0, choose 1, choose 2, choose 1, loop 0, protocol";
+            String deep = "again 0, again 0, again 0, again 0, end, "
+                + "choose 0, choose 1, choose 2, choose 1, loop 0, protocol";
             Calls.after(deep).due("canFinish, send 1 0 0, send 1 0 0, canFinish", 1, 0, 0, 1);
             Calls.after("again 0, 16x message 0 1 0, end, choose 0, loop 0, protocol, send 0 0 0").due("canFinish", 1);
             Calls.after("again 0, end, choose 1, loop 1, message 0 1 2, loop 0, protocol, send 0 0 0, receive 1")
@@ -414,35 +426,14 @@ public final class RunBoundaries {
             Calls.after("again 1, again 1, choose 2, loop 1, protocol").due("canFinish", 0)
                 .due("send 2 0 0, canFinish", 0);
             Calls.after("again 0, 18x message 0 1 0, loop 0, protocol").due("canFinish", 0);
-            String oneEnd = "end, again 0, message 0 1 2, loop 0, choose 2, protocol";
-            Calls.after(oneEnd).due("canFinish, send 2 0 0, canFinish", 1, 0, 1);
-            Calls.after(oneEnd).due("canFinish, send 2 1 0, canFinish, send 2 1 0, canFinish", 1, 1, 0, 1, 0)
+            Calls.after(END_OR_FOREVER).due("canFinish, send 2 0 0, canFinish", 1, 0, 1);
+            Calls.after(END_OR_FOREVER).due("canFinish, send 2 1 0, canFinish, send 2 1 0, canFinish", 1, 1, 0, 1, 0)
                 .due("receive 0, receive 1, canFinish", 1, 1, 0);
-            String otherEnd = "again 1, message 0 1 2, loop 1, end, choose 2, protocol";
-            Calls.after(otherEnd).due("canFinish, send 2 0 0, canFinish", 1, 0, 0);
-            Calls.after(otherEnd).due("canFinish, send 2 1 0, canFinish", 1, 1, 1);
-            Calls.after(oneEnd + ", !send 2 2 0").due("canFinish", 1);
-            Calls.after(oneEnd + ", send 2 1 0, restart").due("canFinish", 1);
+            Calls.after(FOREVER_OR_END).due("canFinish, send 2 0 0, canFinish", 1, 0, 0);
+            Calls.after(FOREVER_OR_END).due("canFinish, send 2 1 0, canFinish", 1, 1, 1);
+            Calls.after(END_OR_FOREVER + ", !send 2 2 0").due("canFinish", 1);
+            Calls.after(END_OR_FOREVER + ", send 2 1 0, restart").due("canFinish", 1);
         });
-    }
-
-    private static void roles() {
-        String[][] calls = {{"Promise 10: send", "int send(int role, int pick, int value)", "send R 0 0"},
-            {"Promise 11: receive", "int receive(int role)", "receive R"},
-            {"Promise 12: got", "int got(int role)", "got R"},
-            {"Promise 13: state", "int state(int role)", "state R"},
-            {"Promise 14: partner", "int partner(int role)", "partner R"},
-            {"Promise 15: onWay", "int onWay(int p, int q)", "onWay R 0"},
-            {"Promise 15: onWay", "int onWay(int p, int q)", "onWay 0 R"}};
-        for (String[] call : calls) {
-            Sentences.under(call[0]);
-            Sentences.sentence(call[1], () -> {
-                for (String scene : new String[] {"", HELD_RUN, PICKING, HALF_TOLD, HELD_PICKING}) {
-                    Sentences.refused(scene, call[2].replace("R", "-1"), BAD_ARG);
-                    Sentences.refused(scene, call[2].replace("R", "3"), BAD_ARG);
-                }
-            });
-        }
     }
 
     public static void main(String[] args) {
@@ -456,7 +447,6 @@ public final class RunBoundaries {
         onWay();
         sent();
         canFinish();
-        roles();
         Sentences.report();
     }
 }

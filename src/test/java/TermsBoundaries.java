@@ -23,8 +23,10 @@ public final class TermsBoundaries {
     private static final String HALF_TOLD = PICKING + ", send 1 1 9";
     private static final String HELD_PICKING = "2x end, choose 0, 4x message 0 1 3, protocol, 4x send 0 0 9";
     private static final String OVER_RUN = "end, message 0 1 3, protocol, send 0 0 9, receive 1";
+    private static final String END_OR_FOREVER = "end, again 0, message 0 1 2, loop 0, choose 2, protocol";
     private static final String[] SCENES = {"", "end", "2x end", "again 0", "20x end", FULL_WITH_ONE_TERM, FOREVER,
-        HELD_RUN, PICKING, HALF_TOLD, HELD_PICKING, OVER_RUN, HELD_RUN + ", 3x end"};
+        HELD_RUN, PICKING, HALF_TOLD, HELD_PICKING, OVER_RUN, HELD_RUN + ", 3x end", END_OR_FOREVER,
+        END_OR_FOREVER + ", send 2 1 9"};
 
     private static void useOfAnObject() {
         Sentences.under("What it is");
@@ -92,13 +94,14 @@ public final class TermsBoundaries {
                 Calls.after("2x end").due(calls[i].replace("R", "3"), BAD_ARG);
             }
         });
-        Sentences.sentence("again t (t 0 or 1), which goes back to the beginning of the nearest loop t around it.", () -> {
+        Sentences.sentence("again t (t 0 or 1), which goes back to the beginning of the"
+            + " nearest loop t around it.", () -> {
             for (int t = 0; t < 2; t++) {
                 String inner = "again " + t + ", message 0 1 1, ";
                 labels(inner + "loop " + t + ", message 0 1 2, loop " + t, 2, 1, 1, 1);
                 labels(inner + "loop " + (1 - t) + ", message 0 1 2, loop " + t, 2, 1, 2, 1);
-                labels(inner + "message 0 1 0, loop " + t + ", message 0 1 2, loop " + (1 - t) + ", message 0 1 3, loop "
-                    + t, 3, 2, 0, 1, 0, 1, 0, 1);
+                labels(inner + "message 0 1 0, loop " + t + ", message 0 1 2, loop " + (1 - t)
+                    + ", message 0 1 3, loop " + t, 3, 2, 0, 1, 0, 1, 0, 1);
                 labels(inner + "loop " + (1 - t) + ", message 0 1 2, loop " + t + ", message 0 1 3, loop " + t,
                     3, 2, 1, 2, 1, 2, 1);
             }
@@ -140,7 +143,8 @@ public final class TermsBoundaries {
             Calls.after("2x end, choose 1, end, choose 0, protocol, 2x send 0 0 0, receive 1, receive 2")
                 .states(WAITS, MAY_SEND, WAITS).partners(1, 0, 1).due("send 0 0 0, receive 0, receive 2", NONE);
         });
-        Sentences.sentence("two messages with the pick as label are put at the end of the path, both from p, the first one"
+        Sentences.sentence("two messages with the pick as label are put at the end of the path,"
+            + " both from p, the first one"
             + " to the lesser one of the two other roles, the second one to the greater one", () -> {
             int[] lesser = {1, 0, 0};
             int[] greater = {2, 2, 1};
@@ -190,7 +194,8 @@ public final class TermsBoundaries {
                 .due("send 2 0 0, receive 1", 2).states(WAITS, MAY_SEND, OVER).partners(1, 0, NONE)
                 .due("send 1 0 0, receive 0", 3).states(OVER, OVER, OVER);
         });
-        Sentences.sentence("where the walk stands at a choose p, for role p the picking behind all these (it is at the same"
+        Sentences.sentence("where the walk stands at a choose p, for role p the picking behind all"
+            + " these (it is at the same"
             + " time the sending of the first one of the two messages)", () -> {
             Calls.after("2x end, choose 0, message 1 0 2, message 0 2 3, protocol")
                 .due("send 0 1 0", 3).states(WAITS, MAY_SEND, MAY_RECEIVE).due("send 0 1 0", NONE)
@@ -198,7 +203,8 @@ public final class TermsBoundaries {
                 .due("receive 0", 2).states(MAY_SEND, WAITS, MAY_RECEIVE).due("sent, onWay 0 1", 2, 0)
                 .due("send 0 1 8, sent, onWay 0 1, onWay 0 2, receive 1, got 1", 1, 3, 1, 1, 1, 8);
         });
-        Sentences.sentence("A role does its actions one after the other; the first one that is not done is its NEXT one.",
+        Sentences.sentence("A role does its actions one after the other; the first one that is not"
+            + " done is its NEXT one.",
             () -> {
                 Calls.after("end, message 2 1 2, message 0 1 1, protocol, send 2 0 7")
                     .due("state 1, partner 1, receive 1", WAITS, 0, NONE)
@@ -206,13 +212,15 @@ public final class TermsBoundaries {
                     .due("receive 1, got 1, partner 1, receive 1, got 1", 1, 6, 2, 2, 7);
                 Calls.after("end, message 0 2 2, message 0 1 1, protocol").due("partner 0, send 0 0 0", 1)
                     .due("partner 0, send 0 0 0, partner 0", 2, 2, NONE);
-                Calls.after("end, message 1 0 2, message 1 2 1, protocol, send 1 0 0").due("state 0, receive 0", WAITS, NONE);
+                Calls.after("end, message 1 0 2, message 1 2 1, protocol, send 1 0 0")
+                    .due("state 0, receive 0", WAITS, NONE);
             });
     }
 
     private static void capacity() {
         Sentences.under("Terms");
-        Sentences.sentence("A sending (or picking) can be done if fewer than 4 messages from the same sender to the same"
+        Sentences.sentence("A sending (or picking) can be done if fewer than 4 messages from the"
+            + " same sender to the same"
             + " receiver are ON THEIR WAY, that is, sent and not received.", () -> {
             for (int p = 0; p < 3; p++) {
                 for (int q = 0; q < 3; q++) {
@@ -302,11 +310,13 @@ public final class TermsBoundaries {
 
     private static void over() {
         Sentences.under("Terms");
-        Sentences.sentence("A role is OVER if it has no next action, and none can come, whatever is picked later.", () -> {
+        Sentences.sentence("A role is OVER if it has no next action, and none can come,"
+            + " whatever is picked later.", () -> {
             Calls.after("end, message 0 1 3, protocol").states(MAY_SEND, WAITS, OVER)
                 .due("send 0 0 0", 3).states(OVER, MAY_RECEIVE, OVER).due("onWay 0 1", 1)
                 .due("receive 1", 3).states(OVER, OVER, OVER);
-            Calls.after("2x end, choose 0, 17x message 0 1 0, protocol").states(MAY_SEND, WAITS, WAITS).due("partner 2", 0);
+            Calls.after("2x end, choose 0, 17x message 0 1 0, protocol")
+                .states(MAY_SEND, WAITS, WAITS).due("partner 2", 0);
             Calls.after("2x end, choose 0, 16x loop 1, message 0 1 0, protocol, send 0 0 0, receive 1")
                 .states(MAY_SEND, WAITS, WAITS).partners(1, 0, 0);
             Calls.after("again 0, message 1 2 0, loop 0, message 0 1 3, protocol, send 0 0 0")
@@ -374,7 +384,8 @@ public final class TermsBoundaries {
                 Sentences.refused(scene, call, FULL);
             }
         }
-        for (String scene : new String[] {"", FOREVER, HELD_RUN, HALF_TOLD, OVER_RUN}) {
+        String[] emptyStack = {"", FOREVER, HELD_RUN, HALF_TOLD, OVER_RUN, END_OR_FOREVER + ", 2x send 2 1 9"};
+        for (String scene : emptyStack) {
             for (String call : new String[] {"message 0 1 2", "choose 2", "loop 1", "protocol"}) {
                 Sentences.refused(scene, call, TOO_FEW);
             }
@@ -395,6 +406,10 @@ public final class TermsBoundaries {
         Sentences.refused(PICKING, "receive 2", NONE);
         Sentences.refused(PICKING, "send 1 2 5", BAD_ARG);
         Sentences.refused(PICKING, "send 1 -1 5", BAD_ARG);
+        Sentences.refused(END_OR_FOREVER, "send 2 2 5", BAD_ARG);
+        Sentences.refused(END_OR_FOREVER, "send 2 -1 5", BAD_ARG);
+        Sentences.refused(END_OR_FOREVER, "send 0 1 5", NONE);
+        Sentences.refused(END_OR_FOREVER + ", send 2 1 9", "send 1 0 5", NONE);
         Sentences.refused(HALF_TOLD, "send 0 0 5", NONE);
         Sentences.refused(HALF_TOLD, "receive 1", NONE);
         Sentences.refused(HALF_TOLD, "receive 2", NONE);
@@ -478,9 +493,11 @@ public final class TermsBoundaries {
                 Calls.after(again + "16x " + other + ", message 0 1 2, " + own + ", " + own).due("protocol", 20);
             }
         });
-        Sentences.sentence("`OVER = 0`, `MAY_SEND = 1`, `HELD = 2`, `MAY_RECEIVE = 3`, `WAITS = 4`: What a role can do.", () -> {
+        Sentences.sentence("`OVER = 0`, `MAY_SEND = 1`, `HELD = 2`, `MAY_RECEIVE = 3`,"
+            + " `WAITS = 4`: What a role can do.", () -> {
             Calls.after("").states(0, 0, 0).states(ProtocolRoles.OVER, ProtocolRoles.OVER, ProtocolRoles.OVER);
-            Calls.after(FOREVER).states(1, 4, 0).states(ProtocolRoles.MAY_SEND, ProtocolRoles.WAITS, ProtocolRoles.OVER);
+            Calls.after(FOREVER).states(1, 4, 0)
+                .states(ProtocolRoles.MAY_SEND, ProtocolRoles.WAITS, ProtocolRoles.OVER);
             Calls.after(HELD_RUN).states(2, 3, 0)
                 .states(ProtocolRoles.HELD, ProtocolRoles.MAY_RECEIVE, ProtocolRoles.OVER);
         });
