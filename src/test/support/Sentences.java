@@ -77,7 +77,7 @@ public final class Sentences {
         System.out.println(heading + ", \"" + sentence + "\": " + what);
     }
 
-    /** The call is refused with the code, and no later call shows that it was made. */
+    /** The call is refused with the code, and the continuations do not show that it was made. */
     public static void refused(String scene, String call, int code) {
         Calls.after(scene).due(call, code);
         if (code >= 0) {
@@ -86,7 +86,7 @@ public final class Sentences {
         alike(scene, scene.isEmpty() ? "!" + call : scene + ", !" + call);
     }
 
-    /** Whatever is called later, it answers the same after the one scene and after the other. */
+    /** Each continuation answers the same after the one scene and after the other. */
     public static void alike(String scene, String otherScene) {
         for (String continuation : CONTINUATIONS) {
             Calls one = Calls.after(scene);
