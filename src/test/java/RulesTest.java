@@ -7,7 +7,9 @@ import java.nio.file.Files;
 import java.nio.file.Path;
 import java.util.Arrays;
 import java.util.List;
+import java.util.Map;
 import java.util.Set;
+import java.util.TreeMap;
 import java.util.TreeSet;
 import java.util.regex.Matcher;
 import java.util.regex.Pattern;
@@ -87,9 +89,12 @@ public final class RulesTest {
         must(held <= 40, "rule 10: at most some forty fields, not " + held);
     }
 
-    private static void text() throws IOException {
+    private static String code() throws IOException {
         String source = Files.readString(Path.of("src/main/java/ProtocolRoles.java"));
-        String code = source.replaceAll("(?s)/\\*.*?\\*/", "").replaceAll("//[^\n]*", "");
+        return source.replaceAll("(?s)/\\*.*?\\*/", "").replaceAll("//[^\n]*", "");
+    }
+
+    private static void text(String code) {
         for (String word : FORBIDDEN) {
             String pattern = Character.isLetter(word.charAt(0)) ? "\\b" + word + "(?!\\w)" : word;
             must(!Pattern.compile(pattern).matcher(code).find(), "rules 2, 3, 5, 6: no " + word);
@@ -100,12 +105,63 @@ public final class RulesTest {
                 "rule 4: arrays are made in the fields' initialisers: " + news.group().strip());
         }
         must(!Pattern.compile("\\bwhile\\b").matcher(code).find(), "rule 8: loops count against a bound");
+        Matcher loops = Pattern.compile("\\bfor \\(.*").matcher(code);
+        while (loops.find()) {
+            must(loops.group().matches("for \\(int (\\w+) = 0; \\1 < \\w+( && [^;]*)?; \\1\\+\\+\\) \\{"),
+                "rule 8: a counter against a bound: " + loops.group());
+        }
+    }
+
+    private static Map<String, String> bodies(String code) {
+        Map<String, String> bodies = new TreeMap<>();
+        Matcher m = Pattern.compile("(?ms)^    (?:public|private)[^;={]* (\\w+)\\([^)]*\\) \\{\n(.*?)^    }$").matcher(code);
+        while (m.find()) {
+            bodies.put(m.group(1), m.group(2));
+        }
+        return bodies;
+    }
+
+    private static void methods(Map<String, String> bodies) {
+        int declared = ProtocolRoles.class.getDeclaredMethods().length + 1;
+        must(bodies.size() == declared, "every method is looked at: " + bodies.keySet());
+        bodies.forEach((name, body) -> {
+            must(body.lines().count() <= 60, "rule 10: " + name + " is short");
+            must(depth(name, bodies, 1) <= 6, "rules 8, 10: no recursion, calls at most six deep, from " + name);
+            Matcher calls = Pattern.compile("\\b(\\w+)\\(").matcher(body);
+            while (calls.find()) {
+                must(bodies.containsKey(calls.group(1)), "rule 3: a method of its own, not " + calls.group(1));
+                must(!argument(body, calls.end()).matches("(?s).*\\w\\(.*"),
+                    "rule 10: no call inside the arguments of " + calls.group(1) + " in " + name);
+            }
+        });
+    }
+
+    /** How deep calls go from this method; more than six deep it looks no further, so it always ends. */
+    private static int depth(String name, Map<String, String> bodies, int above) {
+        int deepest = above;
+        Matcher calls = Pattern.compile("\\b(\\w+)\\(").matcher(bodies.getOrDefault(name, ""));
+        while (calls.find() && deepest <= 6) {
+            deepest = Math.max(deepest, depth(calls.group(1), bodies, above + 1));
+        }
+        return deepest;
+    }
+
+    private static String argument(String body, int from) {
+        int open = 1;
+        int to = from;
+        while (open > 0) {
+            open += body.charAt(to) == '(' ? 1 : body.charAt(to) == ')' ? -1 : 0;
+            to++;
+        }
+        return body.substring(from, to - 1);
     }
 
     public static void main(String[] args) throws Exception {
         face();
         fields();
-        text();
+        String code = code();
+        text(code);
+        methods(bodies(code));
         System.out.println(wrong == 0 ? "the rules are kept" : wrong + " rules are broken");
         if (wrong != 0) {
             System.exit(1);
